@@ -605,6 +605,7 @@ public final class PluginRunner {
                 case Op.MUL: return put(x * y);
                 case Op.LESS: return put(x < y ? 1 : 0);
                 case Op.EQUAL: return put(x == y ? 1 : 0);
+                case Op.DIV:
                 default: return divide(x, y);
             }
         }
