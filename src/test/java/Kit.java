@@ -22,6 +22,7 @@ final class Kit {
     static final int RETURN = 19;
 
     private final String test;
+    private String about = "";
     private int right = 0;
     private int wrong = 0;
 
@@ -34,8 +35,17 @@ final class Kit {
             right++;
         } else {
             wrong++;
-            System.out.println(test + ": " + call + " answered " + got + ", due is " + want);
+            System.out.println(test + ": " + about + call + " answered " + got + ", due is " + want);
         }
+    }
+
+    /** What the next answers are about, told with each wrong one. */
+    void about(String what) {
+        about = what.isEmpty() ? "" : what + ": ";
+    }
+
+    int compared() {
+        return right + wrong;
     }
 
     /** An answer that should be true, told in words. */
