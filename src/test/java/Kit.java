@@ -21,13 +21,30 @@ final class Kit {
     static final int HOST = 18;
     static final int RETURN = 19;
 
+    private static final long MOST_MILLISECONDS = 300_000;
+
     private final String test;
-    private String about = "";
+    // Read by the watch too.
+    private volatile String about = "";
     private int right = 0;
     private int wrong = 0;
 
     Kit(String test) {
         this.test = test;
+        Thread watch = new Thread(this::failWhenLate);
+        watch.setDaemon(true);
+        watch.start();
+    }
+
+    /** A call that doesn't end must fail the test, not hold it up for ever. */
+    private void failWhenLate() {
+        try {
+            Thread.sleep(MOST_MILLISECONDS);
+        } catch (InterruptedException nobodyAsksForThis) {
+            return;
+        }
+        System.out.println(test + ": " + about + "not at its end after " + MOST_MILLISECONDS + " milliseconds");
+        Runtime.getRuntime().halt(1);
     }
 
     void due(String call, long got, long want) {
