@@ -532,7 +532,11 @@ public final class PluginRunner {
                 }
                 fuelUsed++;
                 int outcome = step();
+                if (outcome == WAITING) {
+                    return WAITING;
+                }
                 if (outcome != GOES_ON) {
+                    endTrapped();
                     return outcome;
                 }
             }
@@ -559,6 +563,12 @@ public final class PluginRunner {
             runsEnded++;
         }
 
+        private void endTrapped() {
+            runsTrapped++;
+            dropRun();
+        }
+
+        /** Does the next instruction; answers GOES_ON, WAITING or the trap that it fell into. */
         private int step() {
             Frame frame = innermost();
             Function function = program.functions[frame.number];
@@ -611,16 +621,20 @@ public final class PluginRunner {
         }
 
         private int divide(int x, int y) {
-            if (y == 0 || (x == Integer.MIN_VALUE && y == -1)) {
-                return trap(ARITHMETIC);
+            if (y == 0) {
+                return ARITHMETIC;
             }
-            return put(x / y);
+            long quotient = (long) x / y;
+            if (quotient != (int) quotient) {
+                return ARITHMETIC;
+            }
+            return put((int) quotient);
         }
 
         private int load(int offset) {
             long cell = (long) take() + offset;
             if (!isCell(cell)) {
-                return trap(MEMORY);
+                return MEMORY;
             }
             return put(cells[(int) cell]);
         }
@@ -629,7 +643,7 @@ public final class PluginRunner {
             int value = take();
             long cell = (long) take() + offset;
             if (!isCell(cell)) {
-                return trap(MEMORY);
+                return MEMORY;
             }
             cells[(int) cell] = value;
             return GOES_ON;
@@ -641,7 +655,7 @@ public final class PluginRunner {
 
         private int call(int function) {
             if (depth == MOST_UNDER_WAY) {
-                return trap(DEPTH);
+                return DEPTH;
             }
             Frame frame = enter(function);
             for (int i = program.functions[function].takes - 1; i >= 0; i--) {
@@ -652,7 +666,7 @@ public final class PluginRunner {
 
         private int ask(int host) {
             if (!granted[host]) {
-                return trap(DENIED);
+                return DENIED;
             }
             asked = take();
             waitsFor = host;
@@ -668,7 +682,7 @@ public final class PluginRunner {
 
         private int put(int value) {
             if (values == MOST_VALUES) {
-                return trap(STACK);
+                return STACK;
             }
             stack[values] = value;
             values++;
@@ -678,12 +692,6 @@ public final class PluginRunner {
         private int take() {
             values--;
             return stack[values];
-        }
-
-        private int trap(int sort) {
-            runsTrapped++;
-            dropRun();
-            return sort;
         }
 
         private void stopWaiting() {
